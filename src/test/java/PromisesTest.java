@@ -332,6 +332,9 @@ public final class PromisesTest {
             due("16: right " + g, x.alike(SWAP_01, g), false);
             due("16: both " + g, x.alike(g, g), false);
         }
+        // Too great, but with the six lowest digits of a permutation.
+        due("16: left too great", x.alike(46656 + SWAP_01, SWAP_01), false);
+        due("16: right too great", x.alike(SWAP_01, 46656 + SWAP_01), false);
     }
 
     private static void promise17Centre() {
@@ -341,6 +344,7 @@ public final class PromisesTest {
         due("17: hexagon", hexagon().centre(), 2);
         due("17: commutative", group(TURN_012, TURN_345).centre(), 9);
         due("17: three points and a swap", group(SWAP_01, TURN_012, SWAP_45).centre(), 2);
+        due("17: the fifth counts", group(SWAP_45, IDENTITY, SWAP_01, IDENTITY, TURN_012).centre(), 2);
         due("17: everything", everything().centre(), 1);
     }
 
@@ -351,6 +355,8 @@ public final class PromisesTest {
         due("18: hexagon", hexagon().commutative(), false);
         due("18: first and last differ", group(SWAP_01, SWAP_45, SWAP_12).commutative(), false);
         due("18: second and last differ", group(SWAP_45, SWAP_01, SWAP_12).commutative(), false);
+        due("18: the last two of five differ",
+            group(IDENTITY, SWAP_45, SWAP_45, SWAP_01, SWAP_12).commutative(), false);
         due("18: everything", everything().commutative(), false);
     }
 
@@ -379,6 +385,7 @@ public final class PromisesTest {
         due("20: two cycles of three", group(TURN_012, TURN_345).normaliser(), 72);
         due("20: four points", group(SWAP_01, TURN_0123).normaliser(), 48);
         due("20: even", group(TURN_012, Due.perm(0, 2, 3, 4, 5, 1)).normaliser(), 720);
+        due("20: the fifth counts", group(IDENTITY, IDENTITY, IDENTITY, IDENTITY, SWAP_01).normaliser(), 48);
         due("20: everything", everything().normaliser(), 720);
         due("20: none", new PermutationGroups().normaliser(), 720);
     }
