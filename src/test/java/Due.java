@@ -1,20 +1,28 @@
-/** What the tests share: telling wrong answers, and writing permutations and sets readably. */
-final class Due {
+/** What the tests share: telling wrong answers, and the sentence of the document they belong to. */
+abstract class Due {
     private static final int MOST_TOLD = 40;
     private static int asked = 0;
     private static int wrong = 0;
+    private static String sentence = "";
+    private static int askedAtSentence = 0;
 
-    private Due() {
+    /** From here on the answers belong to this sentence of the document, and there must be some. */
+    static void sentence(String text) {
+        endSentence();
+        sentence = text;
+        askedAtSentence = asked;
+    }
+
+    private static void endSentence() {
+        if (!sentence.isEmpty() && asked == askedAtSentence) {
+            tellWrong("nothing was asked");
+        }
     }
 
     static void due(String call, long got, long want) {
         asked++;
-        if (got == want) {
-            return;
-        }
-        wrong++;
-        if (wrong <= MOST_TOLD) {
-            System.out.println(call + " answered " + got + ", due is " + want);
+        if (got != want) {
+            tellWrong(call + " answered " + got + ", due is " + want);
         }
     }
 
@@ -22,8 +30,35 @@ final class Due {
         due(call, got ? 1L : 0L, want ? 1L : 0L);
     }
 
+    /** Makes the call; one that throws is a wrong answer too. */
+    static void due(PermutationGroups x, Call call, long want) {
+        asked++;
+        long got;
+        try {
+            got = call.on(x);
+        } catch (RuntimeException | Error thrown) {
+            tellWrong(call.text() + " threw " + thrown);
+            return;
+        }
+        if (got != want) {
+            tellWrong(call.text() + " answered " + got + ", due is " + want);
+        }
+    }
+
+    static void due(PermutationGroups x, Call call, boolean want) {
+        due(x, call, want ? 1L : 0L);
+    }
+
+    private static void tellWrong(String text) {
+        wrong++;
+        if (wrong <= MOST_TOLD) {
+            System.out.println(sentence.isEmpty() ? text : "[" + sentence + "] " + text);
+        }
+    }
+
     /** Ends the test: exit code 1 if an answer was wrong, or if nothing was asked at all. */
     static void end() {
+        endSentence();
         System.out.println(asked + " answers, " + wrong + " of them wrong");
         if (wrong != 0 || asked == 0) {
             System.exit(1);

@@ -11,7 +11,10 @@ import java.util.stream.IntStream;
  */
 public final class ModelTest {
     private static final int RUNS = 220;
-    private static final int CALLS = 120;
+    // So few that the whole comparison at the end still lies within the 512 calls of an object.
+    private static final int CALLS = 160;
+    private static final int LONG_RUNS = 60;
+    private static final int MOST_CALLS = 512;
 
     private static final int[][] PERMS = allPermutations();
     private static final int[] INDEX = new int[46656];
@@ -35,6 +38,9 @@ public final class ModelTest {
         everyGroupOfOneGenerator();
         for (int run = 0; run < RUNS; run++) {
             mixedRun(run);
+        }
+        for (int run = 0; run < LONG_RUNS; run++) {
+            runToTheLastCall(run);
         }
         Due.end();
     }
@@ -321,31 +327,65 @@ public final class ModelTest {
         model.compareWhole("run " + run + ", end", x);
     }
 
+    private static void runToTheLastCall(int run) {
+        PermutationGroups x = new PermutationGroups();
+        ModelTest model = new ModelTest();
+        int[] pool = pool();
+        for (int call = 1; call <= MOST_CALLS; call++) {
+            model.compareCall("long run " + run + ", call " + call, x, pool);
+        }
+    }
+
+    /** Makes one call, of a method and with arguments as they come. */
     private void compareCall(String where, PermutationGroups x, int[] pool) {
+        switch (below(3)) {
+            case 0 -> compareChange(where, x, pool);
+            case 1 -> comparePermutations(where, x, pool);
+            default -> comparePointsAndSets(where, x);
+        }
+    }
+
+    private void compareChange(String where, PermutationGroups x, int[] pool) {
+        int g = below(2) == 0 ? pick(pool) : pool[below(pool.length)];
+        switch (below(4)) {
+            case 0, 1 -> Due.due(where + ": add(" + g + ")", x.add(g), add(g));
+            case 2 -> Due.due(where + ": remove()", x.remove(), remove());
+            default -> Due.due(where + ": conjugateAll(" + g + ")", x.conjugateAll(g), conjugateAll(g));
+        }
+    }
+
+    private void comparePermutations(String where, PermutationGroups x, int[] pool) {
         int g = pick(pool);
         int h = pick(pool);
         int k = below(2) == 0 || index(g) < 0 || index(h) < 0 ? pick(pool) : code(conjugate(index(g), index(h)));
         String told = where + ", g = " + g + ", h = " + h + ", k = " + k + ": ";
-        switch (below(10)) {
-            case 0 -> Due.due(told + "add(g)", x.add(g), add(g));
-            case 1 -> {
-                int own = pool[below(pool.length)];
-                Due.due(told + "add(" + own + ")", x.add(own), add(own));
-            }
-            case 2 -> Due.due(told + "remove()", x.remove(), remove());
-            case 3 -> Due.due(told + "conjugateAll(h)", x.conjugateAll(h), conjugateAll(h));
-            case 4 -> Due.due(told + "has(g)", x.has(g), has(g));
-            case 5 -> Due.due(told + "commuting(g)", x.commuting(g), commuting(g));
-            case 6 -> Due.due(told + "alike(g, k)", x.alike(g, k), alike(g, k));
-            case 7 -> Due.due(told + "product(g, h)", x.product(g, h),
+        switch (below(9)) {
+            case 0 -> Due.due(told + "has(g)", x.has(g), has(g));
+            case 1 -> Due.due(told + "commuting(g)", x.commuting(g), commuting(g));
+            case 2 -> Due.due(told + "alike(g, k)", x.alike(g, k), alike(g, k));
+            case 3 -> Due.due(told + "product(g, h)", x.product(g, h),
                 index(g) < 0 || index(h) < 0 ? -1 : code(PRODUCT[index(g)][index(h)]));
-            case 8 -> Due.due(told + "commutative()", x.commutative(), commutative());
-            default -> {
-                Due.due(told + "order()", x.order(), group.length);
-                Due.due(told + "centre()", x.centre(), centre());
-                Due.due(told + "normaliser()", x.normaliser(), normaliser());
-                Due.due(told + "generators()", x.generators(), generators.size());
-            }
+            case 4 -> Due.due(told + "inverse(g)", x.inverse(g), index(g) < 0 ? -1 : code(INVERSE[index(g)]));
+            case 5 -> Due.due(told + "commutative()", x.commutative(), commutative());
+            case 6 -> Due.due(told + "order()", x.order(), group.length);
+            case 7 -> Due.due(told + "centre()", x.centre(), centre());
+            default -> Due.due(told + "normaliser()", x.normaliser(), normaliser());
+        }
+    }
+
+    private void comparePointsAndSets(String where, PermutationGroups x) {
+        int a = below(8) - 1;
+        int b = below(8) - 1;
+        int set = below(66) - 1;
+        String told = where + ", a = " + a + ", b = " + b + ", set = " + set + ": ";
+        switch (below(7)) {
+            case 0 -> Due.due(told + "orbit(a)", x.orbit(a), orbit(a));
+            case 1 -> Due.due(told + "carrier(a, b)", x.carrier(a, b), carrier(a, b));
+            case 2 -> Due.due(told + "fixing(set)", x.fixing(set), fixing(set));
+            case 3 -> Due.due(told + "keeping(set)", x.keeping(set), keeping(set));
+            case 4 -> Due.due(told + "images(set)", x.images(set), images(set));
+            case 5 -> Due.due(told + "orbits()", x.orbits(), orbits());
+            default -> Due.due(told + "generators()", x.generators(), generators.size());
         }
     }
 }

@@ -1,33 +1,5 @@
 /** Each promise of the document by itself: ordinary inputs, the edges it names, and wrong inputs. */
-public final class PromisesTest {
-    private static final int BAD_ARG = -1;
-    private static final int FULL = -2;
-    private static final int NONE = -4;
-
-    private static final int IDENTITY = Due.perm(0, 1, 2, 3, 4, 5);
-    private static final int SWAP_01 = Due.perm(1, 0, 2, 3, 4, 5);
-    private static final int SWAP_12 = Due.perm(0, 2, 1, 3, 4, 5);
-    private static final int SWAP_23 = Due.perm(0, 1, 3, 2, 4, 5);
-    private static final int SWAP_45 = Due.perm(0, 1, 2, 3, 5, 4);
-    private static final int TURN_012 = Due.perm(1, 2, 0, 3, 4, 5);
-    private static final int TURN_021 = Due.perm(2, 0, 1, 3, 4, 5);
-    private static final int TURN_345 = Due.perm(0, 1, 2, 4, 5, 3);
-    private static final int TURN_0123 = Due.perm(1, 2, 3, 0, 4, 5);
-    private static final int TURN_01234 = Due.perm(1, 2, 3, 4, 0, 5);
-    private static final int TURN_ALL = Due.perm(1, 2, 3, 4, 5, 0);
-    private static final int TURN_ALL_BACK = Due.perm(5, 0, 1, 2, 3, 4);
-    private static final int MIRROR = Due.perm(0, 5, 4, 3, 2, 1);
-    private static final int REVERSE = Due.perm(5, 4, 3, 2, 1, 0);
-
-    /** Not permutations: out of range on both sides, and in range with a point that is met twice. */
-    private static final int[] NO_PERMUTATIONS = {
-        Integer.MIN_VALUE, -46656, -44790, -1, 0, 1, 7, 1864, 1866, 44789, 44791, 46655, 46656,
-        46656 + 44790, 2 * 46656 + 1865, Integer.MAX_VALUE,
-        Due.perm(0, 0, 2, 3, 4, 5), Due.perm(0, 1, 2, 3, 4, 4), Due.perm(1, 2, 3, 4, 5, 5)
-    };
-    private static final int[] NO_POINTS = {Integer.MIN_VALUE, -6, -1, 6, 7, 32, 63, Integer.MAX_VALUE};
-    private static final int[] NO_SETS = {Integer.MIN_VALUE, -64, -1, 64, 65, 127, 128, Integer.MAX_VALUE};
-
+public final class PromisesTest extends Samples {
     public static void main(String[] args) {
         promise1NewObject();
         promise2Add();
@@ -50,29 +22,8 @@ public final class PromisesTest {
         promise19Carrier();
         promise20Normaliser();
         promise21OrderAndLimits();
-        refusedCallsChangeNothing();
         objectsStandAlone();
-        Due.end();
-    }
-
-    private static void due(String call, long got, long want) {
-        Due.due(call, got, want);
-    }
-
-    private static void due(String call, boolean got, boolean want) {
-        Due.due(call, got, want);
-    }
-
-    private static PermutationGroups group(int... generators) {
-        return Due.group(generators);
-    }
-
-    private static PermutationGroups everything() {
-        return group(SWAP_01, TURN_ALL);
-    }
-
-    private static PermutationGroups hexagon() {
-        return group(TURN_ALL, MIRROR);
+        end();
     }
 
     private static void promise1NewObject() {
@@ -140,9 +91,9 @@ public final class PromisesTest {
         // h^-1 g h has the cycles of g with every point x in the place of it x^h.
         due("4: the swap of 1 and 2", x.has(SWAP_12), true);
         due("4: not the swap of 0 and 1", x.has(SWAP_01), false);
-        due("4: point 0 rests", x.orbit(0), Due.set(0));
-        due("4: orbit of 1", x.orbit(1), Due.set(1, 2, 3));
-        due("4: the cycle 1 2 3", x.remove(), Due.perm(0, 2, 3, 1, 4, 5));
+        due("4: point 0 rests", x.orbit(0), set(0));
+        due("4: orbit of 1", x.orbit(1), set(1, 2, 3));
+        due("4: the cycle 1 2 3", x.remove(), perm(0, 2, 3, 1, 4, 5));
         due("4: the other generator too", x.remove(), SWAP_12);
         PermutationGroups back = group(TURN_ALL);
         due("4: reversed", back.conjugateAll(REVERSE), 1);
@@ -193,7 +144,7 @@ public final class PromisesTest {
         due("7: of a swap", x.inverse(SWAP_45), SWAP_45);
         due("7: of the identity", x.inverse(IDENTITY), IDENTITY);
         due("7: of the least", x.inverse(REVERSE), REVERSE);
-        due("7: of a mixed one", x.inverse(Due.perm(2, 0, 1, 4, 5, 3)), Due.perm(1, 2, 0, 5, 3, 4));
+        due("7: of a mixed one", x.inverse(perm(2, 0, 1, 4, 5, 3)), perm(1, 2, 0, 5, 3, 4));
         for (int g : NO_PERMUTATIONS) {
             due("7: inverse(" + g + ")", x.inverse(g), BAD_ARG);
         }
@@ -208,10 +159,10 @@ public final class PromisesTest {
         due("8: four points", group(SWAP_01, TURN_0123).order(), 24);
         due("8: even on five points", group(TURN_012, TURN_01234).order(), 60);
         due("8: five points", group(SWAP_01, TURN_01234).order(), 120);
-        due("8: even", group(TURN_012, Due.perm(0, 2, 3, 4, 5, 1)).order(), 360);
+        due("8: even", group(TURN_012, perm(0, 2, 3, 4, 5, 1)).order(), 360);
         due("8: everything", everything().order(), 720);
         due("8: everything from five swaps",
-            group(SWAP_01, SWAP_12, SWAP_23, SWAP_45, Due.perm(0, 1, 2, 4, 3, 5)).order(), 720);
+            group(ALL_SWAPS).order(), 720);
         due("8: identity only", group(IDENTITY, IDENTITY).order(), 1);
     }
 
@@ -220,7 +171,7 @@ public final class PromisesTest {
         due("9: generator", x.has(TURN_ALL), true);
         due("9: inverse", x.has(TURN_ALL_BACK), true);
         due("9: identity", x.has(IDENTITY), true);
-        due("9: square", x.has(Due.perm(2, 3, 4, 5, 0, 1)), true);
+        due("9: square", x.has(perm(2, 3, 4, 5, 0, 1)), true);
         due("9: outside", x.has(MIRROR), false);
         due("9: the least outside", x.has(REVERSE), false);
         due("9: the least in hexagon", hexagon().has(REVERSE), true);
@@ -232,12 +183,12 @@ public final class PromisesTest {
 
     private static void promise10Orbit() {
         PermutationGroups x = group(SWAP_01, TURN_345);
-        due("10: of 0", x.orbit(0), Due.set(0, 1));
-        due("10: of 1", x.orbit(1), Due.set(0, 1));
-        due("10: of 2", x.orbit(2), Due.set(2));
-        due("10: of 5", x.orbit(5), Due.set(3, 4, 5));
+        due("10: of 0", x.orbit(0), set(0, 1));
+        due("10: of 1", x.orbit(1), set(0, 1));
+        due("10: of 2", x.orbit(2), set(2));
+        due("10: of 5", x.orbit(5), set(3, 4, 5));
         // A chain of swaps reaches the far end only by a product of several generators.
-        due("10: chain", group(SWAP_01, SWAP_12, SWAP_23).orbit(0), Due.set(0, 1, 2, 3));
+        due("10: chain", group(SWAP_01, SWAP_12, SWAP_23).orbit(0), set(0, 1, 2, 3));
         due("10: everything", everything().orbit(5), 63);
         for (int point : NO_POINTS) {
             due("10: orbit(" + point + ")", x.orbit(point), BAD_ARG);
@@ -249,21 +200,21 @@ public final class PromisesTest {
         due("11: swap", group(SWAP_45).orbits(), 5);
         due("11: two and three", group(SWAP_01, TURN_345).orbits(), 3);
         due("11: two threes", group(TURN_012, TURN_345).orbits(), 2);
-        due("11: interleaved pairs", group(Due.perm(3, 4, 5, 0, 1, 2)).orbits(), 3);
+        due("11: interleaved pairs", group(perm(3, 4, 5, 0, 1, 2)).orbits(), 3);
         due("11: everything", everything().orbits(), 1);
     }
 
     private static void promise12Fixing() {
         PermutationGroups x = everything();
         due("12: empty set", x.fixing(0), 720);
-        due("12: a point", x.fixing(Due.set(5)), 120);
-        due("12: two", x.fixing(Due.set(0, 3)), 24);
-        due("12: three", x.fixing(Due.set(1, 3, 5)), 6);
+        due("12: a point", x.fixing(set(5)), 120);
+        due("12: two", x.fixing(set(0, 3)), 24);
+        due("12: three", x.fixing(set(1, 3, 5)), 6);
         due("12: all", x.fixing(63), 1);
-        due("12: hexagon, a point", hexagon().fixing(Due.set(0)), 2);
-        due("12: hexagon, across", hexagon().fixing(Due.set(0, 3)), 2);
-        due("12: hexagon, beside", hexagon().fixing(Due.set(0, 1)), 1);
-        due("12: kept, not fixed", group(SWAP_01).fixing(Due.set(0, 1)), 1);
+        due("12: hexagon, a point", hexagon().fixing(set(0)), 2);
+        due("12: hexagon, across", hexagon().fixing(set(0, 3)), 2);
+        due("12: hexagon, beside", hexagon().fixing(set(0, 1)), 1);
+        due("12: kept, not fixed", group(SWAP_01).fixing(set(0, 1)), 1);
         for (int set : NO_SETS) {
             due("12: fixing(" + set + ")", x.fixing(set), BAD_ARG);
         }
@@ -272,14 +223,14 @@ public final class PromisesTest {
     private static void promise13Keeping() {
         PermutationGroups x = everything();
         due("13: empty set", x.keeping(0), 720);
-        due("13: a point", x.keeping(Due.set(5)), 120);
-        due("13: two", x.keeping(Due.set(0, 3)), 48);
-        due("13: three", x.keeping(Due.set(1, 3, 5)), 36);
+        due("13: a point", x.keeping(set(5)), 120);
+        due("13: two", x.keeping(set(0, 3)), 48);
+        due("13: three", x.keeping(set(1, 3, 5)), 36);
         due("13: all", x.keeping(63), 720);
-        due("13: hexagon, across", hexagon().keeping(Due.set(0, 3)), 4);
-        due("13: hexagon, beside", hexagon().keeping(Due.set(0, 1)), 2);
-        due("13: hexagon, triangle", hexagon().keeping(Due.set(0, 2, 4)), 6);
-        due("13: swapped", group(SWAP_01).keeping(Due.set(0, 1)), 2);
+        due("13: hexagon, across", hexagon().keeping(set(0, 3)), 4);
+        due("13: hexagon, beside", hexagon().keeping(set(0, 1)), 2);
+        due("13: hexagon, triangle", hexagon().keeping(set(0, 2, 4)), 6);
+        due("13: swapped", group(SWAP_01).keeping(set(0, 1)), 2);
         for (int set : NO_SETS) {
             due("13: keeping(" + set + ")", x.keeping(set), BAD_ARG);
         }
@@ -288,14 +239,14 @@ public final class PromisesTest {
     private static void promise14Images() {
         PermutationGroups x = everything();
         due("14: empty set", x.images(0), 1);
-        due("14: a point", x.images(Due.set(5)), 6);
-        due("14: two", x.images(Due.set(4, 5)), 15);
-        due("14: three", x.images(Due.set(1, 3, 5)), 20);
-        due("14: five", x.images(Due.set(0, 1, 2, 3, 4)), 6);
+        due("14: a point", x.images(set(5)), 6);
+        due("14: two", x.images(set(4, 5)), 15);
+        due("14: three", x.images(set(1, 3, 5)), 20);
+        due("14: five", x.images(set(0, 1, 2, 3, 4)), 6);
         due("14: all", x.images(63), 1);
-        due("14: hexagon, across", hexagon().images(Due.set(0, 3)), 3);
-        due("14: hexagon, triangle", hexagon().images(Due.set(0, 2, 4)), 2);
-        due("14: new object", new PermutationGroups().images(Due.set(2, 5)), 1);
+        due("14: hexagon, across", hexagon().images(set(0, 3)), 3);
+        due("14: hexagon, triangle", hexagon().images(set(0, 2, 4)), 2);
+        due("14: new object", new PermutationGroups().images(set(2, 5)), 1);
         for (int set : NO_SETS) {
             due("14: images(" + set + ")", x.images(set), BAD_ARG);
         }
@@ -340,7 +291,7 @@ public final class PromisesTest {
     private static void promise17Centre() {
         due("17: swap", group(SWAP_01).centre(), 2);
         due("17: three points", group(SWAP_01, TURN_012).centre(), 1);
-        due("17: square", group(TURN_0123, Due.perm(0, 3, 2, 1, 4, 5)).centre(), 2);
+        due("17: square", group(TURN_0123, perm(0, 3, 2, 1, 4, 5)).centre(), 2);
         due("17: hexagon", hexagon().centre(), 2);
         due("17: commutative", group(TURN_012, TURN_345).centre(), 9);
         due("17: three points and a swap", group(SWAP_01, TURN_012, SWAP_45).centre(), 2);
@@ -363,8 +314,8 @@ public final class PromisesTest {
     private static void promise19Carrier() {
         PermutationGroups x = everything();
         due("19: 0 to 5", x.carrier(0, 5), REVERSE);
-        due("19: 5 to 5", x.carrier(5, 5), Due.perm(4, 3, 2, 1, 0, 5));
-        due("19: 0 to 0", x.carrier(0, 0), Due.perm(0, 5, 4, 3, 2, 1));
+        due("19: 5 to 5", x.carrier(5, 5), perm(4, 3, 2, 1, 0, 5));
+        due("19: 0 to 0", x.carrier(0, 0), perm(0, 5, 4, 3, 2, 1));
         due("19: swap", group(SWAP_01).carrier(1, 0), SWAP_01);
         due("19: a point that rests", group(SWAP_01).carrier(3, 3), SWAP_01);
         due("19: identity", group(SWAP_01).carrier(0, 0), IDENTITY);
@@ -384,7 +335,7 @@ public final class PromisesTest {
         due("20: cycle of six", group(TURN_ALL).normaliser(), 12);
         due("20: two cycles of three", group(TURN_012, TURN_345).normaliser(), 72);
         due("20: four points", group(SWAP_01, TURN_0123).normaliser(), 48);
-        due("20: even", group(TURN_012, Due.perm(0, 2, 3, 4, 5, 1)).normaliser(), 720);
+        due("20: even", group(TURN_012, perm(0, 2, 3, 4, 5, 1)).normaliser(), 720);
         due("20: the fifth counts", group(IDENTITY, IDENTITY, IDENTITY, IDENTITY, SWAP_01).normaliser(), 48);
         due("20: everything", everything().normaliser(), 720);
         due("20: none", new PermutationGroups().normaliser(), 720);
@@ -399,36 +350,6 @@ public final class PromisesTest {
             due("21: carrier(" + point + " twice)", x.carrier(point, point), BAD_ARG);
         }
         due("21: carrier(0, 1)", x.carrier(0, 1), NONE);
-    }
-
-    private static void refusedCallsChangeNothing() {
-        PermutationGroups x = group(SWAP_01, SWAP_23, SWAP_23, SWAP_23, TURN_012);
-        x.add(TURN_ALL);
-        for (int g : NO_PERMUTATIONS) {
-            x.add(g);
-            x.conjugateAll(g);
-            x.product(g, TURN_ALL);
-            x.inverse(g);
-            x.has(g);
-            x.commuting(g);
-            x.alike(g, TURN_ALL);
-        }
-        for (int i = 0; i < NO_SETS.length; i++) {
-            x.fixing(NO_SETS[i]);
-            x.keeping(NO_SETS[i]);
-            x.images(NO_SETS[i]);
-            x.orbit(NO_POINTS[i]);
-            x.carrier(NO_POINTS[i], 0);
-        }
-        due("refused: order", x.order(), 24);
-        due("refused: generators", x.generators(), 5);
-        due("refused: fifth", x.remove(), TURN_012);
-        due("refused: fourth", x.remove(), SWAP_23);
-        due("refused: third", x.remove(), SWAP_23);
-        due("refused: second", x.remove(), SWAP_23);
-        due("refused: first", x.remove(), SWAP_01);
-        due("refused: remove", x.remove(), NONE);
-        due("refused: order of none", x.order(), 1);
     }
 
     private static void objectsStandAlone() {
