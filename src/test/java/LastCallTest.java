@@ -13,11 +13,16 @@ public final class LastCallTest extends Samples {
     public static void main(String[] args) {
         sentence("at most 512 calls after it has been made: each method as the 512th call");
         for (List<Call> filling : fillings()) {
-            hexagonCalls().forEach((last, want) -> lastCall(List.of(TURN_ALL, MIRROR), filling, last, want));
+            hexagonChanges().forEach((last, want) -> lastCall(List.of(TURN_ALL, MIRROR), filling, last, want));
+            hexagonQuestions().forEach((last, want) -> lastCall(List.of(TURN_ALL, MIRROR), filling, last, want));
             fullCalls().forEach((last, want) -> lastCall(List.of(SWAP_01, SWAP_12, SWAP_23, SWAP_34, SWAP_45),
                 filling, last, want));
-            emptyCalls().forEach((last, want) -> lastCall(List.of(), filling, last, want));
+            emptyQuestions().forEach((last, want) -> lastCall(List.of(), filling, last, want));
+            lastCall(List.of(), filling, Call.add(SWAP_01), 1);
         }
+        sentence("at most 512 calls after it has been made: the same question up to the 512th call");
+        hexagonQuestions().forEach((question, want) -> sameOverAndOver(List.of(TURN_ALL, MIRROR), question, want));
+        emptyQuestions().forEach((question, want) -> sameOverAndOver(List.of(), question, want));
         sentence("at most 512 calls after it has been made: 511 calls that add and remove, then order");
         eachOfManyAddsAndRemoves();
         sentence("at most 512 calls after it has been made: 510 calls of conjugateAll, then remove");
@@ -27,19 +32,22 @@ public final class LastCallTest extends Samples {
 
     /** Calls that, made over and over, leave the group as it is; used to come to the 511th call. */
     private static List<List<Call>> fillings() {
-        List<Call> refused = List.of(Call.add(0), Call.conjugateAll(-1), Call.orbit(6), Call.fixing(64), Call.has(46656));
+        List<Call> refused = List.of(Call.add(0), Call.conjugateAll(-1), Call.orbit(6), Call.fixing(64),
+            Call.has(46656));
         List<Call> asking = List.of(Call.generators(), Call.order(), Call.orbits(), Call.centre(), Call.carrier(0, 3),
             Call.images(9), Call.normaliser());
         List<Call> conjugating = List.of(Call.conjugateAll(TURN_ALL), Call.conjugateAll(TURN_ALL_BACK));
         return List.of(refused, asking, conjugating);
     }
 
-    private static Map<Call, Long> hexagonCalls() {
+    private static Map<Call, Long> hexagonChanges() {
+        return Map.of(Call.add(SWAP_01), 3L, Call.remove(), (long) MIRROR, Call.conjugateAll(SWAP_01), 2L);
+    }
+
+    /** Calls that change nothing, some of them because they are refused. */
+    private static Map<Call, Long> hexagonQuestions() {
         Map<Call, Long> due = new LinkedHashMap<>();
-        due.put(Call.add(SWAP_01), 3L);
         due.put(Call.add(0), (long) BAD_ARG);
-        due.put(Call.remove(), (long) MIRROR);
-        due.put(Call.conjugateAll(SWAP_01), 2L);
         due.put(Call.conjugateAll(46656), (long) BAD_ARG);
         due.put(Call.generators(), 2L);
         due.put(Call.product(SWAP_01, SWAP_12), (long) TURN_021);
@@ -71,10 +79,28 @@ public final class LastCallTest extends Samples {
             Call.normaliser(), 720L);
     }
 
-    private static Map<Call, Long> emptyCalls() {
-        return Map.of(Call.add(SWAP_01), 1L, Call.remove(), (long) NONE, Call.carrier(0, 1), (long) NONE,
-            Call.generators(), 0L, Call.order(), 1L, Call.commutative(), 1L, Call.has(IDENTITY), 1L,
-            Call.normaliser(), 720L);
+    private static Map<Call, Long> emptyQuestions() {
+        Map<Call, Long> due = new LinkedHashMap<>();
+        due.put(Call.add(0), (long) BAD_ARG);
+        due.put(Call.remove(), (long) NONE);
+        due.put(Call.conjugateAll(TURN_ALL), 0L);
+        due.put(Call.generators(), 0L);
+        due.put(Call.product(SWAP_01, SWAP_12), (long) TURN_021);
+        due.put(Call.inverse(TURN_ALL), (long) TURN_ALL_BACK);
+        due.put(Call.order(), 1L);
+        due.put(Call.has(IDENTITY), 1L);
+        due.put(Call.orbit(5), 32L);
+        due.put(Call.orbits(), 6L);
+        due.put(Call.fixing(0), 1L);
+        due.put(Call.keeping(63), 1L);
+        due.put(Call.images(63), 1L);
+        due.put(Call.commuting(TURN_ALL), 1L);
+        due.put(Call.alike(TURN_ALL, TURN_ALL), 1L);
+        due.put(Call.centre(), 1L);
+        due.put(Call.commutative(), 1L);
+        due.put(Call.carrier(0, 1), (long) NONE);
+        due.put(Call.normaliser(), 720L);
+        return due;
     }
 
     private static void lastCall(List<Integer> generators, List<Call> filling, Call last, long want) {
@@ -92,6 +118,14 @@ public final class LastCallTest extends Samples {
         PermutationGroups x = new PermutationGroups();
         calls.forEach(call -> call.on(x));
         due(x, last, want);
+    }
+
+    private static void sameOverAndOver(List<Integer> generators, Call question, long want) {
+        PermutationGroups x = new PermutationGroups();
+        generators.forEach(g -> x.add(g));
+        for (int made = generators.size(); made < MOST_CALLS; made++) {
+            due(x, question, want);
+        }
     }
 
     /** Fills and empties the object over and over, with a refused call at each end. */

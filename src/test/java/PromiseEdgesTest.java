@@ -522,7 +522,8 @@ public final class PromiseEdgesTest extends Samples {
     private static void carrierTestsForBadArgBeforeNone() {
         sentence("21: carrier: BAD_ARG is tested before NONE.");
         // No member takes 0 to 5 or 5 to 0 in any of these, so that NONE would be due as well.
-        for (PermutationGroups x : new PermutationGroups[] {new PermutationGroups(), group(TURN_01234), group(SWAP_45)}) {
+        PermutationGroups[] states = {new PermutationGroups(), group(TURN_01234), group(SWAP_45)};
+        for (PermutationGroups x : states) {
             due(x, Call.carrier(0, 5), NONE);
             due(x, Call.carrier(5, 0), NONE);
             for (int point : NO_POINTS) {

@@ -54,7 +54,8 @@ public final class RefusedCallsTest extends Samples {
         Refusal noCarrier = new Refusal(Call.carrier(0, 5), NONE);
         return List.of(
             new State("no generator", List.of(), List.of(noneToRemove, noCarrier)),
-            new State("no generator any more", List.of(Call.add(TURN_ALL), Call.add(SWAP_01), Call.remove(), Call.remove()),
+            new State("no generator any more",
+                List.of(Call.add(TURN_ALL), Call.add(SWAP_01), Call.remove(), Call.remove()),
                 List.of(noneToRemove, noCarrier)),
             new State("the identity as generator", List.of(Call.add(IDENTITY)), List.of(noCarrier)),
             new State("one generator", List.of(Call.add(TURN_012)), List.of(noCarrier)),
