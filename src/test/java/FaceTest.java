@@ -28,6 +28,9 @@ public final class FaceTest {
         Due.due("public class", Modifier.isPublic(modifiers), true);
         Due.due("final class", Modifier.isFinal(modifiers), true);
         Due.due("nested classes", PermutationGroups.class.getDeclaredClasses().length, 0);
+        Due.due("extends no class", PermutationGroups.class.getSuperclass() == Object.class, true);
+        Due.due("implements no interface", PermutationGroups.class.getInterfaces().length, 0);
+        Due.due("has no package", PermutationGroups.class.getPackageName().isEmpty(), true);
         Due.due("BAD_ARG", PermutationGroups.BAD_ARG, -1);
         Due.due("FULL", PermutationGroups.FULL, -2);
         Due.due("NONE", PermutationGroups.NONE, -4);

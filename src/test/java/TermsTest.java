@@ -1,9 +1,12 @@
 import java.util.ArrayList;
+import java.util.HashSet;
 import java.util.List;
+import java.util.Set;
 
-/** The sentences of the document's "Terms" that name a boundary, each by itself. */
-public final class TermsEdgesTest extends Samples {
+/** The sentences of the document's "Terms", each by itself. */
+public final class TermsTest extends Samples {
     private static final int[] SCALE = {1, 6, 36, 216, 1296, 7776};
+    private static final int MOST_CALLS = 512;
 
     public static void main(String[] args) {
         pointsAreZeroToFive();
@@ -12,15 +15,17 @@ public final class TermsEdgesTest extends Samples {
         permutationThatNamesAPointTwice();
         permutationsAre720();
         permutationIsASumOfSixParts();
+        productTakesTheLeftOneFirst();
         inverseTakesItBack();
         identityTakesEveryPointToItself();
         atMostFiveGenerators();
         productOfNoGenerator();
         productsOfAnyNumber();
         productsOfInverses();
+        groupIsTheProductsAndNoOthers();
         setsAreZeroTo63();
         setOfEachPoint();
-        imageOfEmptyAndFullSet();
+        imageOfEverySet();
         noCallThrows();
         badArgIsMinusOne();
         fullIsMinusTwo();
@@ -111,11 +116,46 @@ public final class TermsEdgesTest extends Samples {
         due(group(TURN_ALL), Call.carrier(1, 0), 5 + 36 + 216 * 2 + 1296 * 3 + 7776 * 4);
     }
 
+    private static void productTakesTheLeftOneFirst() {
+        sentence("The PRODUCT g h takes x to (x^g)^h");
+        for (int g : ALL_PERMUTATIONS) {
+            PermutationGroups x = new PermutationGroups();
+            for (int i = 0; i < 720; i++) {
+                if (i == MOST_CALLS) {
+                    x = new PermutationGroups();
+                }
+                int h = ALL_PERMUTATIONS[i];
+                due(x, Call.product(g, h), product(g, h));
+            }
+        }
+    }
+
+    private static int image(int g, int x) {
+        return g / SCALE[x] % 6;
+    }
+
+    private static int product(int g, int h) {
+        int code = 0;
+        for (int x = 0; x < 6; x++) {
+            code += image(h, image(g, x)) * SCALE[x];
+        }
+        return code;
+    }
+
+    private static int inverse(int g) {
+        int code = 0;
+        for (int x = 0; x < 6; x++) {
+            code += x * SCALE[image(g, x)];
+        }
+        return code;
+    }
+
     private static void inverseTakesItBack() {
         sentence("the INVERSE of g takes x^g to x");
         for (int g : ALL_PERMUTATIONS) {
             PermutationGroups x = new PermutationGroups();
-            int back = x.inverse(g);
+            int back = inverse(g);
+            due(x, Call.inverse(g), back);
             due(x, Call.product(g, back), IDENTITY);
             due(x, Call.product(back, g), IDENTITY);
         }
@@ -184,6 +224,44 @@ public final class TermsEdgesTest extends Samples {
         }
     }
 
+    private static void groupIsTheProductsAndNoOthers() {
+        sentence("the GROUP G is the set of all permutations that are products [..]");
+        int[][] lists = {
+            {}, {IDENTITY}, {SWAP_23}, {TURN_ALL}, {TURN_012, TURN_345}, {SWAP_01, SWAP_23, SWAP_45}, {TURN_ALL, MIRROR},
+            {TURN_0123, SWAP_45}, {TURN_012, TURN_01234}, {TURN_0123, SWAP_01}, {TURN_01234, perm(0, 2, 4, 1, 3, 5)},
+            {TURN_01234, perm(5, 4, 2, 3, 1, 0)}, {SWAP_01, TURN_012, SWAP_34, TURN_345, perm(3, 4, 5, 0, 1, 2)}
+        };
+        for (int[] generators : lists) {
+            Set<Integer> members = products(generators);
+            due(group(generators), Call.order(), members.size());
+            for (int from = 0; from < 720; from += 360) {
+                PermutationGroups x = group(generators);
+                for (int i = from; i < from + 360; i++) {
+                    due(x, Call.has(ALL_PERMUTATIONS[i]), members.contains(ALL_PERMUTATIONS[i]));
+                }
+            }
+        }
+    }
+
+    /** Products of 0, 1, 2, .. generators and inverses of generators, until a length brings no new one. */
+    private static Set<Integer> products(int[] generators) {
+        Set<Integer> found = new HashSet<>(Set.of(IDENTITY));
+        Set<Integer> longest = found;
+        while (!longest.isEmpty()) {
+            Set<Integer> longer = new HashSet<>();
+            for (int product : longest) {
+                for (int g : generators) {
+                    longer.add(product(product, g));
+                    longer.add(product(product, inverse(g)));
+                }
+            }
+            longer.removeAll(found);
+            found.addAll(longer);
+            longest = longer;
+        }
+        return found;
+    }
+
     private static void setsAreZeroTo63() {
         sentence("A set of points is the number [..] (0 to 63)");
         PermutationGroups x = everything();
@@ -214,13 +292,31 @@ public final class TermsEdgesTest extends Samples {
         }
     }
 
-    private static void imageOfEmptyAndFullSet() {
+    private static void imageOfEverySet() {
         sentence("the set S^g has the points x^g for x in S");
         for (int g : ALL_PERMUTATIONS) {
             PermutationGroups x = group(g);
-            due(x, Call.images(0), 1);
-            due(x, Call.images(63), 1);
+            int powers = products(new int[] {g}).size();
+            for (int set = 0; set <= 63; set++) {
+                // The sets S, S^g, (S^g)^g, .. come round to S: so many there are, each for as many powers of g.
+                int images = 1;
+                for (int image = imageOfSet(set, g); image != set; image = imageOfSet(image, g)) {
+                    images++;
+                }
+                due(x, Call.images(set), images);
+                due(x, Call.keeping(set), powers / images);
+            }
         }
+    }
+
+    private static int imageOfSet(int set, int g) {
+        int found = 0;
+        for (int x = 0; x < 6; x++) {
+            if ((set & 1 << x) != 0) {
+                found |= 1 << image(g, x);
+            }
+        }
+        return found;
     }
 
     private static void noCallThrows() {
